@@ -2,7 +2,7 @@
  * Cycles of a weighted graph with at most seven vertices and at most twelve edges.
  *
  * A set of edges is an int: bit e stands for edge number e. The sum of two sets is then their
- * exclusive or. There are at most 4096 sets, so every question is answered by looking at all.
+ * exclusive or. There are at most 4096 sets, few enough for each question to look at them all.
  */
 public final class CycleBasis {
     public static final int BAD_VERTEX = -1;
@@ -14,6 +14,7 @@ public final class CycleBasis {
     private static final int MAX_VERTICES = 7;
     private static final int MAX_EDGES = 12;
     private static final int MAX_WEIGHT = 100;
+    private static final int MAX_SETS = 4096;
 
     private int edgeCount = 0;
 
@@ -21,10 +22,14 @@ public final class CycleBasis {
     private final int[] ends = new int[MAX_EDGES];
     private final int[] weights = new int[MAX_EDGES];
 
-    /**
-     * The span that a call builds for itself: rows[b] is 0 or a closed set whose greatest edge
-     * is b. No call relies on what an earlier one left here.
-     */
+    // The fields below are scratch: a call fills them for itself, and none relies on what an
+    // earlier one left there.
+
+    /** The closed sets that are not empty. */
+    private final int[] closedSets = new int[MAX_SETS];
+    private int closedCount = 0;
+
+    /** The span of the sets chosen so far: rows[b] is 0 or a set whose greatest edge is b. */
     private final int[] rows = new int[MAX_EDGES];
 
     public CycleBasis() {
@@ -69,7 +74,7 @@ public final class CycleBasis {
 
     public int rank() {
         int size = 0;
-        clearSpan();
+        startSpan();
         for (int round = 0; round < MAX_EDGES; round++) {
             if (growSpan() > 0) {
                 size++;
@@ -80,7 +85,7 @@ public final class CycleBasis {
 
     public int total() {
         int sum = 0;
-        clearSpan();
+        startSpan();
         for (int round = 0; round < MAX_EDGES; round++) {
             sum += growSpan();
         }
@@ -93,7 +98,7 @@ public final class CycleBasis {
             return NONE;
         }
         int weight = 0;
-        clearSpan();
+        startSpan();
         for (int round = 0; round <= i; round++) {
             weight = growSpan();
         }
@@ -104,8 +109,18 @@ public final class CycleBasis {
         if (!isEdge(e)) {
             return NO_EDGE;
         }
-        int weight = lightestThrough(e);
-        return weight > 0 ? weight : NONE;
+        int best = 0;
+        gatherClosedSets();
+        for (int k = 0; k < closedCount; k++) {
+            int set = closedSets[k];
+            if (has(set, e)) {
+                int weight = weightOf(set);
+                if (best == 0 || weight < best) {
+                    best = weight;
+                }
+            }
+        }
+        return best > 0 ? best : NONE;
     }
 
     public boolean closed(int mask) {
@@ -119,7 +134,7 @@ public final class CycleBasis {
         // The sets chosen so far span all closed sets lighter than the last one chosen, so the
         // first choice that brings the set into the span has the weight that is asked for.
         int weight = 0;
-        clearSpan();
+        startSpan();
         for (int round = 0; round < MAX_EDGES && remainder(mask) != 0; round++) {
             weight = growSpan();
         }
@@ -127,9 +142,14 @@ public final class CycleBasis {
     }
 
     public int bridges() {
+        int covered = 0;
+        gatherClosedSets();
+        for (int k = 0; k < closedCount; k++) {
+            covered |= closedSets[k];
+        }
         int count = 0;
         for (int e = 0; e < edgeCount; e++) {
-            if (lightestThrough(e) == 0) {
+            if (!has(covered, e)) {
                 count++;
             }
         }
@@ -177,22 +197,20 @@ public final class CycleBasis {
         return sum;
     }
 
-    /** The least weight of a closed set with edge e; 0 if there is none. */
-    private int lightestThrough(int e) {
-        int best = 0;
+    private void gatherClosedSets() {
+        int count = 0;
         int end = 1 << edgeCount;
         for (int set = 1; set < end; set++) {
-            if (has(set, e) && isClosed(set)) {
-                int weight = weightOf(set);
-                if (best == 0 || weight < best) {
-                    best = weight;
-                }
+            if (isClosed(set)) {
+                closedSets[count] = set;
+                count++;
             }
         }
-        return best;
+        closedCount = count;
     }
 
-    private void clearSpan() {
+    private void startSpan() {
+        gatherClosedSets();
         for (int b = 0; b < MAX_EDGES; b++) {
             rows[b] = 0;
         }
@@ -230,9 +248,9 @@ public final class CycleBasis {
     private int lightestOutsideSpan() {
         int best = 0;
         int bestWeight = 0;
-        int end = 1 << edgeCount;
-        for (int set = 1; set < end; set++) {
-            if (isClosed(set) && remainder(set) != 0) {
+        for (int k = 0; k < closedCount; k++) {
+            int set = closedSets[k];
+            if (remainder(set) != 0) {
                 int weight = weightOf(set);
                 if (best == 0 || weight < bestWeight) {
                     best = set;
